@@ -1,8 +1,9 @@
 /** Each promise by itself, with answers worked out by hand: plain uses, edges and wrong numbers. */
 public final class PromisesTest {
     private static final Check CHECK = new Check("PromisesTest");
-    private static final int LEAST = Integer.MIN_VALUE;
-    private static final int MOST = Integer.MAX_VALUE;
+    private static final Desks DESKS = new Desks(CHECK);
+    private static final int LEAST = Desks.LEAST;
+    private static final int MOST = Desks.MOST;
     private static final int[] NO_REGISTER = {-1, 4, LEAST, MOST};
 
     private PromisesTest() {
@@ -30,23 +31,15 @@ public final class PromisesTest {
     }
 
     private static SimilarityDesk desk(int size, int... entries) {
-        SimilarityDesk desk = new SimilarityDesk(size);
-        fill(desk, 0, entries);
-        return desk;
+        return DESKS.with(size, entries);
     }
 
     private static void fill(SimilarityDesk desk, int r, int... entries) {
-        for (int at = 0; at < entries.length; at++) {
-            CHECK.due("set(" + r + ", " + at + ", " + entries[at] + ")", true,
-                    desk.set(r, at, entries[at]));
-        }
+        DESKS.fill(desk, r, entries);
     }
 
     private static void holds(String after, SimilarityDesk desk, int r, int... entries) {
-        for (int at = 0; at < entries.length; at++) {
-            CHECK.due(after + ": get(" + r + ", " + at + ")", entries[at], desk.get(r, at));
-        }
-        CHECK.due(after + ": get behind the last entry", -1, desk.get(r, entries.length));
+        DESKS.holds(after, desk, r, entries);
     }
 
     private static void newObject() {
