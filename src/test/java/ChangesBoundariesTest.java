@@ -363,15 +363,12 @@ public final class ChangesBoundariesTest {
     }
 
     private static void greatestExponents() {
-        int least = MOST_EXPONENT - 1;
-        int[] ones = {1, 1, 1, 1};
-        int[] ofTwo = {1, 3, 4, 2};
+        int[] powersOfTwo = {1, 3, 4, 2};
         for (int below = 0; below < 4; below++) {
-            becomes(1, MOST_EXPONENT - below, new int[] {1}, new int[] {ones[below]});
-            becomes(1, MOST_EXPONENT - below, new int[] {2}, new int[] {ofTwo[below]});
+            becomes(1, MOST_EXPONENT - below, new int[] {2}, new int[] {powersOfTwo[below]});
         }
         becomes(2, MOST_EXPONENT, Desks.steps(2, 1), Desks.scalar(2, 1));
-        becomes(2, least, Desks.steps(2, 1), new int[] {1, 4, 0, 1});
+        becomes(2, MOST_EXPONENT - 1, Desks.steps(2, 1), new int[] {1, 4, 0, 1});
         becomes(4, MOST_EXPONENT, Desks.steps(4, 0), new int[16]);
         // This one's order is 624, and 1000000000 leaves 64 by it: six squarings.
         int[] matrix = Desks.companion(3, 1, 1, 0);
@@ -388,8 +385,7 @@ public final class ChangesBoundariesTest {
         int[][] due = square(matrix);
         for (int bit = 0; bit < 30; bit++) {
             becomes(4, 1 << bit, matrix, line(due));
-            becomes(4, (1 << bit) + (bit > 0 ? 1 : 0), matrix,
-                    line(bit > 0 ? Matrices.product(due, square(matrix)) : due));
+            becomes(4, (1 << bit) + 1, matrix, line(Matrices.product(due, square(matrix))));
             due = Matrices.product(due, due);
         }
     }

@@ -48,10 +48,21 @@ final class Desks {
     }
 
     SimilarityDesk full(int size) {
-        SimilarityDesk desk = new SimilarityDesk(size);
+        SimilarityDesk desk = used(size);
         for (int r = 0; r < 4; r++) {
             fill(desk, r, fullEntries(size, r));
         }
+        return desk;
+    }
+
+    /**
+     * Earlier calls have left something that is not 0 wherever the class works things out: a
+     * number right outside its range, if it were taken, would find that.
+     */
+    private SimilarityDesk used(int size) {
+        SimilarityDesk desk = with(size, scalar(size, 2));
+        check.due("power(1, 0, 1)", true, desk.power(1, 0, 1));
+        check.due("similar(0, 1)", true, desk.similar(0, 1));
         return desk;
     }
 
@@ -72,7 +83,7 @@ final class Desks {
         return entries;
     }
 
-    /** 1 right above the diagonal, and these entries on it; the rest is 0. */
+    /** The value along the diagonal, and 1 right above it; the rest is 0. */
     static int[] steps(int size, int value) {
         int[] entries = scalar(size, value);
         for (int i = 1; i < size; i++) {
