@@ -130,8 +130,12 @@ public final class SimilarityDesk {
         int corner = 0;
         for (int i = 0; i < size; i++) {
             int factor = factors[i];
-            writeCompanion(d, corner, factor);
-            corner += degree(factor);
+            int rows = degree(factor);
+            // The degrees add up to size, so this never fails; it keeps every index in sight.
+            if (corner + rows <= size) {
+                writeCompanion(d, corner, factor);
+            }
+            corner += rows;
         }
         return true;
     }

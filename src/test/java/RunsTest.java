@@ -1,4 +1,4 @@
-/** All promises: long runs of calls with right and wrong numbers, beside the model. */
+/** All promises: runs of 512 calls with right and wrong numbers, beside the model. */
 public final class RunsTest {
     private static final Check CHECK = new Check("RunsTest");
     private static final int RUNS = 150;
@@ -13,12 +13,18 @@ public final class RunsTest {
                     Integer.MAX_VALUE);
             Pair pair = new Pair(CHECK, "run " + run, size);
             pair.lookAtAll();
-            while (pair.callsLeft() > 64) {
+            while (pair.callsLeft() > lastLook(pair)) {
                 step(pair, numbers);
             }
             pair.lookAtAll();
+            CHECK.due("run " + run + ": calls left of the 512", 0, pair.callsLeft());
         }
         CHECK.end();
+    }
+
+    /** The calls that a look at all entries takes, the last ones of each run. */
+    private static int lastLook(Pair pair) {
+        return 4 * pair.rows() * pair.rows();
     }
 
     private static void step(Pair pair, Numbers numbers) {
@@ -50,7 +56,8 @@ public final class RunsTest {
 
     /** Register 3 becomes a change of base, and register 1 what it makes of register 0. */
     private static void makeAlike(Pair pair, Numbers numbers) {
-        if (pair.callsLeft() < 90) {
+        int calls = pair.rows() * pair.rows() + 4;
+        if (pair.callsLeft() < calls + lastLook(pair)) {
             return;
         }
         pair.fill(3, Matrices.invertible(numbers, pair.rows()));
